@@ -12,7 +12,7 @@ public final class OpenTypeSession {
       GENERAL = 10, OPEN = 100;
 
   private static final int MAX_TOKENS = 24, MAX_DECLARATIONS = 20, MAX_SIZE = 12;
-  private static final int NAMES = 12, TVARS = 4;
+  private static final int NAMES = 12, TVARS = 4, ALL_SIZES = 144;
 
   // The kinds of tokens.
   private static final int T_INT = 0, T_TRUE = 1, T_FALSE = 2, T_NAME = 3, T_FN = 4, T_GIVES = 5,
@@ -41,7 +41,7 @@ public final class OpenTypeSession {
   // Shapes of nodes beside INT .. ARROW. ALIEN is an open variable that fits must not settle.
   private static final int VARIABLE = 7, GENERIC = 8, ALIEN = 9, FIRST_TVAR = 10;
 
-  // A token writes at most two steps and leaves fewer than ten symbols waiting.
+  // A token writes at most two steps and leaves some ten symbols waiting at most.
   private static final int MAX_STEPS = 64, MAX_SYMBOLS = 512, PARSE_TURNS = 100000;
   // 24 tokens make some 1300 nodes at most: the uses of one let's name are what makes most of them.
   private static final int MAX_NODES = 4096;
@@ -53,14 +53,14 @@ public final class OpenTypeSession {
   private int accepted = 0;
   private int lastPlace = -1;
 
-  // The declared types as node() answers them, MAX_SIZE numbers a name; size 0: not declared.
+  // The declared types as node() answers them, MAX_SIZE cells a name; size 0: not declared.
   private final int[] declaredSize = new int[NAMES];
-  private final int[] declaredNodes = new int[NAMES * MAX_SIZE];
+  private final int[] declaredNodes = new int[ALL_SIZES];
   private int openCount = 0;
 
   // What the declared types would be after the declaration at hand.
   private final int[] draftSize = new int[NAMES];
-  private final int[] draftNodes = new int[NAMES * MAX_SIZE];
+  private final int[] draftNodes = new int[ALL_SIZES];
   private int draftOpen = 0;
 
   private final int[] symbols = new int[MAX_SYMBOLS];
@@ -1084,7 +1084,7 @@ public final class OpenTypeSession {
     for (int name = 0; name < NAMES; name++) {
       declaredSize[name] = draftSize[name];
     }
-    for (int i = 0; i < NAMES * MAX_SIZE; i++) {
+    for (int i = 0; i < ALL_SIZES; i++) {
       declaredNodes[i] = draftNodes[i];
     }
     openCount = draftOpen;

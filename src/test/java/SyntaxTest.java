@@ -124,6 +124,8 @@ public final class SyntaxTest {
     Checks.dueType(session, "val b = 1 < 2 :: nil", "list bool");
     Checks.dueType(session, "val b = 1 :: 2 :: nil", "list int");
     Checks.dueDeclare(session, "val b = ( 1 :: 2 ) :: nil", "CLASH 5");
+    Checks.dueType(session, "fun b c d = c := d := 1", "-> ref unit -> ref int unit");
+    Checks.dueType(session, "fun b c d = c := d :: nil", "-> ref list A -> A unit");
     Checks.dueType(session, "fun c d e = d e e", "-> -> A -> A B -> A B");
     Checks.dueDeclare(session, "fun c d e = d ( e e )", "CLASH 8");
   }
