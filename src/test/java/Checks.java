@@ -74,13 +74,23 @@ final class Checks {
   static String declare(OpenTypeSession session, String text) {
     session.wipe();
     spell(session, text);
+    return declareAsIs(session);
+  }
+
+  /** Declares the tokens that are there. */
+  static String declareAsIs(OpenTypeSession session) {
     return withPlace(session.declare(), session.place());
   }
 
   static String fits(OpenTypeSession session, String name, String type) {
     session.wipe();
     spell(session, type);
-    return withPlace(session.fits(valueOf(name)), session.place());
+    return fitsAsIs(session, valueOf(name));
+  }
+
+  /** Asks whether a name, which may be none, fits the tokens that are there. */
+  static String fitsAsIs(OpenTypeSession session, int name) {
+    return withPlace(session.fits(name), session.place());
   }
 
   private static String withPlace(int answer, int place) {
@@ -98,6 +108,29 @@ final class Checks {
     }
     due("the node behind the last one of " + name, session.node(number, size), -1);
     return text.toString();
+  }
+
+  /** All that size and node tell: the types of the declared names, each behind its letter. */
+  static String types(OpenTypeSession session) {
+    StringBuilder text = new StringBuilder();
+    for (char name = 'a'; name <= 'l'; name++) {
+      String type = type(session, String.valueOf(name));
+      text.append(type.isEmpty() ? "" : name + ": " + type + "; ");
+    }
+    return text.toString();
+  }
+
+  /** A session in which these were declared, each of them accepted. */
+  static OpenTypeSession sessionWith(String... declarations) {
+    OpenTypeSession session = new OpenTypeSession();
+    for (String text : declarations) {
+      dueDeclare(session, text, "OK");
+    }
+    return session;
+  }
+
+  static int countWords(String text) {
+    return text.trim().isEmpty() ? 0 : text.trim().split(" +").length;
   }
 
   private static String nodeText(int node) {
