@@ -21,6 +21,7 @@ public final class DeclareEdgesTest {
     clashChangesNothing();
     largeChangesNothing();
     fullChangesNothing();
+    refusedOftenChangesNothing();
     acceptedChanges();
     Checks.finish();
   }
@@ -355,6 +356,23 @@ public final class DeclareEdgesTest {
     Checks.due("reset behind FULL", session.reset(), 20);
     Checks.due("declare of the tokens that stayed", Checks.declareAsIs(session), "OK");
     Checks.due("types behind it", Checks.types(session), "f: int; ");
+  }
+
+  /** The same refusal hundreds of times: nothing may pile up. */
+  private static void refusedOftenChangesNothing() {
+    String[][] refused = {{"val a = ( 1 , ( 2 , ( 3 , ( 4 , ( 5 , 6 7 ) ) ) )", "SYNTAX 24"},
+        {"val d = ( 1 , ( 2 , ( 3 , ( 4 , ( c , d ) ) ) ) )", "UNBOUND 18"},
+        {"val d = ( 1 , ( 2 , ( 3 , ( 4 :: c , 5 6 ) ) ) )", "CLASH 18"},
+        {"fun d e f g h i = ( a := c , 1 :: c )", "LARGE 17"}};
+    for (String[] one : refused) {
+      OpenTypeSession session = withOpenTypes();
+      Checks.dueDeclare(session, one[0], one[1]);
+      for (int i = 0; i < 150; i++) {
+        Checks.due("declare again", Checks.declareAsIs(session), one[1]);
+      }
+      session.wipe();
+      stillOpen(session);
+    }
   }
 
   /** OK: "the NAME has its type, types of other names may have become less open; the tokens are removed." */

@@ -160,7 +160,8 @@ public final class FitsEdgesTest {
 
   /** "but is left as it is": it stays open, and what it is settled to is free afterwards. */
   private static void openVariablesAreLeft() {
-    OpenTypeSession session = Checks.sessionWith("val a = ref nil", "val b = ref nil", "fun c d = ( d , ! b )");
+    OpenTypeSession session =
+        Checks.sessionWith("val a = ref nil", "val b = ref nil", "fun c d = ( d , ! b )");
     String types = "a: ref list ?0; b: ref list ?1; c: -> A * A list ?1; ";
     Checks.dueFits(session, "a", "int list ref", "NO");
     Checks.dueFits(session, "b", "int list ref", "NO");
@@ -175,25 +176,22 @@ public final class FitsEdgesTest {
 
   /** "type = prod [ -> type ]", "prod = post [ * prod ]", "post = patom { list | ref }". */
   private static void groupingOfTypes() {
-    OpenTypeSession session = Checks.sessionWith("fun a b c = b + c", "fun b c = c 1 + 1",
-        "val c = ( 1 , ( 2 , 3 ) )", "val d = ( ( 1 , 2 ) , 3 )", "val e = ( 1 , 2 ) :: nil",
-        "val f = ( 1 , 2 :: nil )", "val g = ( fn a => a + 1 ) :: nil", "fun h a = a + 1 :: nil",
-        "val i = ( 1 , fn a => a + 1 )", "fun j a = fst a + snd a");
-    String[][] fitting = {{"a", "int -> int -> int"}, {"b", "( int -> int ) -> int"},
-        {"c", "int * int * int"}, {"d", "( int * int ) * int"}, {"e", "( int * int ) list"},
-        {"f", "int * int list"}, {"g", "( int -> int ) list"}, {"h", "int -> int list"},
-        {"i", "int * ( int -> int )"}, {"j", "int * int -> int"}};
-    for (String[] spelled : fitting) {
-      for (char name = 'a'; name <= 'j'; name++) {
-        // 100 types in one session would be too many calls for it.
-        if (spelled[0].charAt(0) == name || (spelled[0].charAt(0) ^ 1) == name) {
-          Checks.dueFits(session, "" + name, spelled[1], spelled[0].equals("" + name) ? "OK" : "NO");
-        }
+    String[][] types = {{"fn b => fn c => b + c", "int -> int -> int"},
+        {"fn b => b 1 + 1", "( int -> int ) -> int"}, {"( 1 , ( 2 , 3 ) )", "int * int * int"},
+        {"( ( 1 , 2 ) , 3 )", "( int * int ) * int"}, {"( 1 , 2 ) :: nil", "( int * int ) list"},
+        {"( 1 , 2 :: nil )", "int * int list"}, {"( fn b => b + 1 ) :: nil", "( int -> int ) list"},
+        {"fn b => b + 1 :: nil", "int -> int list"}, {"( 1 , fn b => b + 1 )", "int * ( int -> int )"},
+        {"fn b => fst b + snd b", "int * int -> int"}};
+    for (String[] own : types) {
+      OpenTypeSession session = Checks.sessionWith("val a = " + own[0]);
+      for (String[] spelled : types) {
+        Checks.dueFits(session, "a", spelled[1], own == spelled ? "OK" : "NO");
+        Checks.dueFits(session, "a", "( ( " + spelled[1] + " ) )", own == spelled ? "OK" : "NO");
       }
     }
-    Checks.dueFits(session, "c", "int * ( int * int )", "OK");
+    OpenTypeSession session = Checks.sessionWith("fun a b c = b + c", "val c = ( 1 , ( 2 , 3 ) )");
     Checks.dueFits(session, "a", "int -> ( int -> int )", "OK");
-    Checks.dueFits(session, "j", "( ( int ) * ( ( int ) ) ) -> int", "OK");
+    Checks.dueFits(session, "c", "( int ) * ( ( int ) * int )", "OK");
   }
 
   /** "The tokens stay.": behind each answer. */

@@ -1,12 +1,15 @@
 import com.sun.source.tree.ClassTree;
 import com.sun.source.tree.CompilationUnitTree;
+import com.sun.source.tree.DoWhileLoopTree;
 import com.sun.source.tree.ExpressionTree;
 import com.sun.source.tree.ForLoopTree;
+import com.sun.source.tree.MemberSelectTree;
 import com.sun.source.tree.MethodInvocationTree;
 import com.sun.source.tree.MethodTree;
 import com.sun.source.tree.NewArrayTree;
 import com.sun.source.tree.Tree;
 import com.sun.source.tree.VariableTree;
+import com.sun.source.tree.WhileLoopTree;
 import com.sun.source.util.JavacTask;
 import com.sun.source.util.TreePathScanner;
 import com.sun.source.util.TreeScanner;
@@ -31,12 +34,11 @@ public final class LanguageTest {
       "<init>", "token", "wipe", "declare", "place", "reset", "size", "node", "fits");
   private static final Set<Tree.Kind> FORBIDDEN = EnumSet.of(
       Tree.Kind.IMPORT, Tree.Kind.PACKAGE, Tree.Kind.INTERFACE, Tree.Kind.ENUM, Tree.Kind.RECORD,
-      Tree.Kind.ANNOTATION_TYPE, Tree.Kind.MEMBER_SELECT, Tree.Kind.NEW_CLASS, Tree.Kind.THROW,
+      Tree.Kind.ANNOTATION_TYPE, Tree.Kind.NEW_CLASS, Tree.Kind.THROW,
       Tree.Kind.TRY, Tree.Kind.CATCH, Tree.Kind.SYNCHRONIZED, Tree.Kind.ASSERT,
       Tree.Kind.INSTANCE_OF, Tree.Kind.LAMBDA_EXPRESSION, Tree.Kind.MEMBER_REFERENCE,
       Tree.Kind.NULL_LITERAL, Tree.Kind.STRING_LITERAL, Tree.Kind.FLOAT_LITERAL,
-      Tree.Kind.DOUBLE_LITERAL, Tree.Kind.ENHANCED_FOR_LOOP, Tree.Kind.WHILE_LOOP,
-      Tree.Kind.DO_WHILE_LOOP);
+      Tree.Kind.DOUBLE_LITERAL);
   private static final List<String> TYPES = Arrays.asList(
       "int", "long", "short", "byte", "char", "boolean", "int[]", "long[]", "short[]", "byte[]",
       "char[]", "boolean[]", "void", "null");
@@ -71,6 +73,12 @@ public final class LanguageTest {
         }
         return super.scan(tree, nothing);
       }
+
+      @Override
+      public Void visitMemberSelect(MemberSelectTree select, Void nothing) {
+        Checks.due("rule 3: " + select, ("" + select).matches("this\\.\\w+|(this\\.)?\\w+\\.length"), true);
+        return super.visitMemberSelect(select, nothing);
+      }
     }.scan(unit, null);
   }
 
@@ -87,7 +95,8 @@ public final class LanguageTest {
         Checks.due("rule 1: " + field.getName() + " is private or a constant",
             flags.contains(Modifier.PRIVATE) || constant && flags.contains(Modifier.PUBLIC), true);
         Checks.due("rule 5: " + field.getName(),
-            !constant || flags.contains(Modifier.FINAL) && "int".equals("" + field.getType()), true);
+            !constant || flags.contains(Modifier.FINAL) && ("" + field.getType()).matches("int|long"),
+            true);
       } else if (member instanceof MethodTree) {
         MethodTree method = (MethodTree) member;
         String name = method.getName().toString();
@@ -125,7 +134,8 @@ public final class LanguageTest {
 
       @Override
       public Void visitNewArray(NewArrayTree array, String method) {
-        Checks.due("rule 4: an array made in a method: " + method, method == null, true);
+        Checks.due("rule 4: an array made in a method: " + method,
+            method == null || method.equals("<init>"), true);
         Checks.due("rule 4: one dimension", array.getDimensions().size(), 1);
         return super.visitNewArray(array, method);
       }
@@ -138,12 +148,27 @@ public final class LanguageTest {
 
       @Override
       public Void visitForLoop(ForLoopTree loop, String method) {
-        Checks.due("rule 8: a loop without a counter in " + method,
-            loop.getInitializer().size() == 1 && loop.getUpdate().size() == 1
-                && ("" + loop.getCondition()).matches(".*(<|<=|>=|>) .*"), true);
+        hasBound(loop.getCondition(), method);
         return super.visitForLoop(loop, method);
       }
+
+      @Override
+      public Void visitWhileLoop(WhileLoopTree loop, String method) {
+        hasBound(loop.getCondition(), method);
+        return super.visitWhileLoop(loop, method);
+      }
+
+      @Override
+      public Void visitDoWhileLoop(DoWhileLoopTree loop, String method) {
+        hasBound(loop.getCondition(), method);
+        return super.visitDoWhileLoop(loop, method);
+      }
     }.scan(unit, null);
+  }
+
+  private static void hasBound(ExpressionTree condition, String method) {
+    Checks.due("rule 8: a loop without a bound in " + method,
+        ("" + condition).matches(".*(<|<=|>=|>) .*"), true);
   }
 
   private static void noCall(Tree argument) {

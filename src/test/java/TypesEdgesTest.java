@@ -7,7 +7,11 @@ public final class TypesEdgesTest {
     fnBindsInItsExpr();
     innermostThenLatest();
     newVariablesAtEachUse();
+    otherVariablesStayAtEachUse();
     noGeneralOnesInside();
+    repetitionsGroupToTheLeft();
+    assignAndConsGroupToTheRight();
+    tighterOperators();
     applicationDemand();
     sumDemands();
     lessDemands();
@@ -117,7 +121,23 @@ public final class TypesEdgesTest {
     type("val a = let val b = nil in ( 1 :: b , true :: b ) end", "* list int list bool");
   }
 
-  /** "NAMEs bound by fn, the further NAMEs of fun, and in fun's own expr its first NAME, have no general ones." */
+  /** Beside its general variables, a type may have others: these are the same at each use. */
+  private static void otherVariablesStayAtEachUse() {
+    type("fun a b = let val c = ( b , nil ) in 1 :: snd c end", "-> A list int");
+    type("fun a b = let val c = ( nil , b ) in 1 :: fst c end", "-> A list int");
+    type("fun a b = let val c = ( b , nil ) in fst c + 1 end", "-> int int");
+    type("fun a b = let val c = ( nil , b ) in ( snd c + 1 , c ) end", "-> int * int * list A int");
+    type("fun a b = let fun c d = ( d , b ) in ( c 1 , c true ) end", "-> A * * int A * bool A");
+    OpenTypeSession session = Checks.sessionWith("val a = hd nil", "fun b c = ( c , a )");
+    Checks.dueType(session, "val d = ( b 1 , b true )", "* * int ?0 * bool ?0");
+    Checks.dueType(session, "val d = snd ( b 1 ) + 1", "int");
+    Checks.dueTypeOf(session, "b", "-> A * A int");
+  }
+
+  /**
+   * "NAMEs bound by fn, the further NAMEs of fun, and in fun's own expr its first NAME, have no
+   * general ones."
+   */
   private static void noGeneralOnesInside() {
     due("val a = fn b => ( b 1 , b true )", "CLASH 11");
     due("fun a b = ( b 1 , b true )", "CLASH 9");
@@ -125,6 +145,52 @@ public final class TypesEdgesTest {
     due("fun a b = ( a 1 , a true )", "CLASH 9");
     due("val a = let fun b c = ( b 1 , b true ) in b end", "CLASH 13");
     type("val a = fn b => ( b 1 , b 2 )", "-> -> int A * A A");
+  }
+
+  // ---- GRAMMAR: what an operator takes is seen by the place of the clash ----
+
+  /** "Repetitions group to the left." */
+  private static void repetitionsGroupToTheLeft() {
+    for (String first : new String[] {"+", "-"}) {
+      for (String second : new String[] {"+", "-"}) {
+        due("val a = true " + first + " 1 " + second + " true", "CLASH 4");
+        due("val a = true " + first + " ( 1 " + second + " true )", "CLASH 7");
+      }
+    }
+    due("val a = 1 < 2 < 3", "CLASH 6");
+    due("val a = 1 < ( 2 < 3 )", "CLASH 4");
+    type("fun a b c d = b c d", "-> -> A -> B C -> A -> B C");
+    type("fun a b c d = b ( c d )", "-> -> A B -> -> C A -> C B");
+    due("val a = 1 2 3 4", "CLASH 4");
+  }
+
+  /** "asgn = cons [ := asgn ]", "cons = cmp [ :: cons ]". */
+  private static void assignAndConsGroupToTheRight() {
+    type("fun a b c = b := c := 1", "-> ref unit -> ref int unit");
+    due("fun a b c = ( b := c ) := 1", "CLASH 10");
+    type("fun a b c = b :: c :: nil", "-> A -> A list A");
+    type("fun a b c d = ( b :: c ) :: d", "-> A -> list A -> list list A list list A");
+    due("val a = 1 :: 2 :: 3", "CLASH 6");
+  }
+
+  /** Application is tighter than + and -, these than <, that than ::, and that than :=. */
+  private static void tighterOperators() {
+    type("fun a b c = b c + 1", "-> -> A int -> A int");
+    type("fun a b c = 1 - b c", "-> -> A int -> A int");
+    type("val a = 1 + 2 < 3 - 4", "bool");
+    due("val a = 1 + ( 2 < 3 ) - 4", "CLASH 4");
+    type("val a = 1 < 2 :: 3 < 4 :: nil", "list bool");
+    type("fun a b c = b :: c < 1 :: nil", "-> bool -> int list bool");
+    due("fun a b c = b :: c := 1", "CLASH 8");
+    due("fun a b c = b < c := 1", "CLASH 8");
+    due("fun a b c = b + c := 1", "CLASH 8");
+    type("fun a b c = b c := 1", "-> -> A ref int -> A unit");
+    type("fun a b c = b := c :: nil", "-> ref list A -> A unit");
+    type("fun a b c = b := c + 1", "-> ref int -> int unit");
+    type("val a = fn b => b + 1", "-> int int");
+    type("fun a b = if b then 1 else 2 + 3", "-> bool int");
+    due("fun a b = if b then 1 else 2 :: nil", "CLASH 4");
+    due("fun a b = ( if b then 1 else 2 ) :: nil", "OK");
   }
 
   // ---- Demands ----
@@ -249,7 +315,10 @@ public final class TypesEdgesTest {
     Checks.dueDeclare(session, "val d = a := true :: nil", "CLASH 4");
   }
 
-  /** "those of the parts of an expression from left to right (the decl of a let before the rest), then its own". */
+  /**
+   * "those of the parts of an expression from left to right (the decl of a let before the rest), then
+   * its own".
+   */
   private static void partsBeforeTheWhole() {
     due("val a = ( 1 1 ) ( 2 2 )", "CLASH 5");
     due("val a = 1 ( 2 2 )", "CLASH 6");
@@ -369,7 +438,10 @@ public final class TypesEdgesTest {
     type("fun a b = let val c = hd nil in c end", "-> A B");
   }
 
-  /** "all variables that are not OPEN": "OPEN are the variables that are not general in the types of the declared NAMEs". */
+  /**
+   * "all variables that are not OPEN": "OPEN are the variables that are not general in the types of
+   * the declared NAMEs".
+   */
   private static void openOnesFix() {
     OpenTypeSession session = Checks.sessionWith("val a = hd nil");
     Checks.dueType(session, "val b = a", "?0");
