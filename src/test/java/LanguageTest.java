@@ -94,6 +94,8 @@ public final class LanguageTest {
         fields += constant ? 0 : 1;
         Checks.due("rule 1: " + field.getName() + " is private or a constant",
             flags.contains(Modifier.PRIVATE) || constant && flags.contains(Modifier.PUBLIC), true);
+        Checks.due("rule 4: no method assigns to " + field.getName(),
+            flags.contains(Modifier.FINAL) || !("" + field.getType()).endsWith("[]"), true);
         Checks.due("rule 5: " + field.getName(),
             !constant || flags.contains(Modifier.FINAL) && ("" + field.getType()).matches("int|long"),
             true);
@@ -102,6 +104,8 @@ public final class LanguageTest {
         String name = method.getName().toString();
         Checks.due("rule 1: who sees " + name, method.getModifiers().getFlags().contains(
             FACE.contains(name) ? Modifier.PUBLIC : Modifier.PRIVATE), true);
+        Checks.due("rules 2 and 4: what " + name + " answers",
+            ("" + method.getReturnType()).matches("null|void|int|long|short|byte|char|boolean"), true);
         Checks.due("rule 10: parameters of " + name, method.getParameters().size() <= 7, true);
       } else {
         Checks.due("rule 1: member " + member, true, false);
@@ -136,7 +140,8 @@ public final class LanguageTest {
       public Void visitNewArray(NewArrayTree array, String method) {
         Checks.due("rule 4: an array made in a method: " + method,
             method == null || method.equals("<init>"), true);
-        Checks.due("rule 4: one dimension", array.getDimensions().size(), 1);
+        Checks.due("rule 4: one dimension, a literal or a constant, in " + array,
+            ("" + array.getDimensions()).matches("[1-9]\\d*|[A-Z][A-Z_]*"), true);
         return super.visitNewArray(array, method);
       }
 

@@ -1,7 +1,6 @@
-/** Promises 1, 2, 3 and the constants of the public face. */
+/** Promises 1, 2, 3: a new object, token, wipe. */
 public final class TokensTest {
   public static void main(String[] args) {
-    constants();
     newObject();
     everyKindIsTaken();
     wrongKinds();
@@ -11,19 +10,6 @@ public final class TokensTest {
     wipeRemovesAll();
     tokensAreKeptInOrder();
     Checks.finish();
-  }
-
-  private static void constants() {
-    int[] answers = {OpenTypeSession.OK, OpenTypeSession.SYNTAX, OpenTypeSession.UNBOUND,
-        OpenTypeSession.CLASH, OpenTypeSession.LARGE, OpenTypeSession.FULL, OpenTypeSession.NO};
-    int[] shapes = {OpenTypeSession.INT, OpenTypeSession.BOOL, OpenTypeSession.UNIT,
-        OpenTypeSession.LIST, OpenTypeSession.REF, OpenTypeSession.PAIR, OpenTypeSession.ARROW};
-    for (int i = 0; i < 7; i++) {
-      Checks.due("answer constant " + i, answers[i], i);
-      Checks.due("shape constant " + i, shapes[i], i);
-    }
-    Checks.due("GENERAL", OpenTypeSession.GENERAL, 10);
-    Checks.due("OPEN", OpenTypeSession.OPEN, 100);
   }
 
   private static void newObject() {
